@@ -107,7 +107,7 @@ public final class FlashFiles {
         files = new Files(device, table, log);
         tree = new Tree(device, table, log);
         checkpoints = new Checkpoints(device, table, log, tree, new Cleaner(device, table, log));
-        inspector = new Inspector(device, table, log, files, checkpoints);
+        inspector = new Inspector(device, table, log, checkpoints);
         state = NO_DEVICE;
         cutAfter = NO_CUT;
         broughtForward = 0;
@@ -722,7 +722,9 @@ public final class FlashFiles {
 
         void settle() {
             System.arraycopy(places, 0, kept, 0, NUMBERS);
-            Arrays.fill(stirred, false);
+            for (int id = 0; id <= IDS; id++) {
+                stirred[id] = false;
+            }
         }
 
         void forget() {
@@ -777,7 +779,9 @@ public final class FlashFiles {
             Arrays.fill(use, 0);
             Arrays.fill(nodes, 0);
             Arrays.fill(data, 0);
-            Arrays.fill(free, false);
+            for (int s = 0; s < MOST_SEGMENTS; s++) {
+                free[s] = false;
+            }
             segments = 0;
             freeSegments = 0;
             nodeEnd = 0;
@@ -888,9 +892,10 @@ public final class FlashFiles {
             table.setPlace(number, 0);
         }
 
+        /** The last block of a segment tells where the next one is, so that is opened with it. */
         void putNode(int number, int[] node, int mark) {
             int place = nodeEnd;
-            nodeEnd = behind(place);
+            nodeEnd = isLast(place) ? openSegment() : place + 1;
             node[MARK] = mark;
             node[NUMBER] = number;
             node[SERIAL] = serial;
@@ -903,15 +908,14 @@ public final class FlashFiles {
 
         int putData(int[] block) {
             int place = dataEnd;
-            dataEnd = behind(place);
+            dataEnd = isLast(place) ? openSegment() : place + 1;
             device.program(place, block, 0);
             claim(place, DATA);
             return place;
         }
 
-        /** A new segment is opened with the last block of the old one, which tells where it is. */
-        private int behind(int place) {
-            return (place - MAIN) % SEGMENT == SEGMENT - 1 ? openSegment() : place + 1;
+        private boolean isLast(int place) {
+            return (place - MAIN) % SEGMENT == SEGMENT - 1;
         }
 
         /** By turns, so that all segments wear alike. The reserve sees to it that one is free. */
@@ -1002,8 +1006,13 @@ public final class FlashFiles {
                     clearFrom(inode, INLINE, size, SMALL_BYTES);
                 }
             } else if (size < inode[SIZE]) {
+                turnTo(size / BLOCK_BYTES);
                 clearTail(size);
-                cutBlocks(blocksBegun(size), blocksBegun(inode[SIZE]));
+                int end = blocksBegun(inode[SIZE]);
+                for (int k = blocksBegun(size); k < end; k++) {
+                    turnTo(k);
+                    cutBlock(k);
+                }
                 inode[SMALL] = size == 0 ? 1 : 0;
             }
             inode[SIZE] = size;
@@ -1039,7 +1048,7 @@ public final class FlashFiles {
             log.dropNode(number);
         }
 
-        void begin(int file) {
+        private void begin(int file) {
             id = file;
             opened = 0;
             directChanged = false;
@@ -1048,17 +1057,8 @@ public final class FlashFiles {
             loadNode(inode[INDIRECT], indirect);
         }
 
-        /** Inode words as they were when begin() was called, or as changed since. */
-        int inodeWord(int i) {
-            return i < 0 || i >= WORDS ? 0 : inode[i];
-        }
-
-        boolean hasNodes() {
-            return (inode[LOWER] | inode[LOWER + 1] | inode[INDIRECT]) != 0;
-        }
-
         /** Makes the node that leads to block k the open one; the one before is stored if changed. */
-        void turnTo(int k) {
+        private void turnTo(int k) {
             int node = k < DIRECTS ? 0 : 1 + (k - DIRECTS) / FAN;
             if (node == 0 || node == opened) {
                 return;
@@ -1068,7 +1068,7 @@ public final class FlashFiles {
             loadNode(numberOf(node), direct);
         }
 
-        int placeOf(int k) {
+        private int placeOf(int k) {
             if (k < DIRECTS) {
                 return k < 0 ? 0 : inode[POINTERS + k];
             }
@@ -1178,12 +1178,8 @@ public final class FlashFiles {
         /** What is cut off must read as zeros when the file becomes longer again. */
         private void clearTail(int size) {
             int k = size / BLOCK_BYTES;
-            if (size % BLOCK_BYTES == 0) {
-                return;
-            }
-            turnTo(k);
             int old = placeOf(k);
-            if (old != 0) {
+            if (old != 0 && size % BLOCK_BYTES != 0) {
                 loadBlock(old);
                 clearFrom(block, 0, size % BLOCK_BYTES, BLOCK_BYTES);
                 log.drop(old);
@@ -1191,15 +1187,12 @@ public final class FlashFiles {
             }
         }
 
-        private void cutBlocks(int from, int end) {
-            for (int k = from; k < end; k++) {
-                turnTo(k);
-                int old = placeOf(k);
-                if (old != 0) {
-                    log.drop(old);
-                    setPlace(k, 0);
-                    inode[THERE]--;
-                }
+        private void cutBlock(int k) {
+            int old = placeOf(k);
+            if (old != 0) {
+                log.drop(old);
+                setPlace(k, 0);
+                inode[THERE]--;
             }
         }
 
@@ -1382,24 +1375,25 @@ public final class FlashFiles {
             if (k >= wordOf(directory, SIZE)) {
                 return -1;
             }
+            device.load(table.placeOf(directory), inode);
             for (int slot = 0; slot < NAMES; slot++) {
-                int word = slotWord(directory, slot);
-                if (word != 0 && namesBefore(directory, word & PLACE) == k) {
-                    device.load(word & PLACE, entry);
-                    for (int i = 0; i < entry[ENTRY_LENGTH]; i++) {
+                int place = inode[POINTERS + slot] & PLACE;
+                if (place != 0 && namesBefore(place) == k) {
+                    device.load(place, entry);
+                    int length = Math.min(entry[ENTRY_LENGTH], NAME_BYTES);
+                    for (int i = 0; i < length; i++) {
                         into.add(getByte(entry, ENTRY_NAME, i));
                     }
-                    return into.length();
                 }
             }
-            return -1;
+            return into.length();
         }
 
-        private int namesBefore(int directory, int place) {
+        /** How many names of the directory that was loaded last stand before the one at a place. */
+        private int namesBefore(int place) {
             int before = 0;
-            for (int slot = 0; slot < NAMES; slot++) {
-                int word = slotWord(directory, slot);
-                if (word != 0 && isBefore(word & PLACE, place)) {
+            for (int i = POINTERS; i < POINTERS + NAMES; i++) {
+                if (inode[i] != 0 && isBefore(inode[i] & PLACE, place)) {
                     before++;
                 }
             }
@@ -1438,9 +1432,11 @@ public final class FlashFiles {
 
         /** Whether segments were found that cost at most dearest blocks each, and most in all. */
         boolean emptySegments(int most, int dearest) {
-            Arrays.fill(victims, false);
             int left = most;
             boolean found = false;
+            for (int s = 0; s < MOST_SEGMENTS; s++) {
+                victims[s] = false;
+            }
             for (int i = 0; i < MOST_SEGMENTS; i++) {
                 int segment = cheapest(Math.min(left, dearest));
                 if (segment < 0) {
@@ -1754,18 +1750,16 @@ public final class FlashFiles {
         private final Device device;
         private final Table table;
         private final Log log;
-        private final Files files;
         private final Checkpoints checkpoints;
         private final int[] owned;
         private final int[] led;
         private final int[] entry;
         private int found;
 
-        Inspector(Device device, Table table, Log log, Files files, Checkpoints checkpoints) {
+        Inspector(Device device, Table table, Log log, Checkpoints checkpoints) {
             this.device = device;
             this.table = table;
             this.log = log;
-            this.files = files;
             this.checkpoints = checkpoints;
             owned = new int[BLOCKS];
             led = new int[NUMBERS];
@@ -1831,7 +1825,7 @@ public final class FlashFiles {
             } else if (level == 0 && device.word(place, KIND) == DIRECTORY) {
                 inspectDirectory(number, place);
             } else if (level == 0) {
-                inspectFile(number);
+                inspectFile(number, place);
             }
         }
 
@@ -1862,25 +1856,35 @@ public final class FlashFiles {
             expect(device.word(place, SIZE) == names);
         }
 
-        private void inspectFile(int id) {
-            files.begin(id);
+        private void inspectFile(int id, int place) {
+            boolean hasNodes = false;
             for (int i = LOWER; i <= INDIRECT; i++) {
-                int number = files.inodeWord(i);
+                int number = device.word(place, i);
                 lead(number);
                 expect(number == 0 || device.word(table.placeOf(number), OWNER) == id);
+                hasNodes |= number != 0;
             }
-            int begun = blocksBegun(files.inodeWord(SIZE));
+            int size = device.word(place, SIZE);
+            int reach = hasNodes ? blocksBegun(FILE_BYTES) : DIRECTS;
             int there = 0;
-            int reach = files.hasNodes() ? blocksBegun(FILE_BYTES) : DIRECTS;
             for (int k = 0; k < reach; k++) {
-                files.turnTo(k);
-                if (files.placeOf(k) != 0) {
+                if (placeOfBlock(place, k) != 0) {
                     there++;
-                    expect(k < begun);
+                    expect(k < blocksBegun(size));
                 }
             }
-            expect(there == files.inodeWord(THERE));
-            expect(files.inodeWord(SMALL) == 0 || there == 0 && files.inodeWord(SIZE) <= SMALL_BYTES);
+            expect(there == device.word(place, THERE));
+            expect(device.word(place, SMALL) == 0 || there == 0 && size <= SMALL_BYTES);
+        }
+
+        private int placeOfBlock(int inode, int k) {
+            if (k < DIRECTS) {
+                return device.word(inode, POINTERS + k);
+            }
+            int node = (k - DIRECTS) / FAN;
+            int upper = node < 2 ? inode : table.placeOf(device.word(inode, INDIRECT));
+            int lower = upper == 0 ? 0 : device.word(upper, node < 2 ? LOWER + node : node - 2);
+            return lower == 0 ? 0 : device.word(table.placeOf(lower), (k - DIRECTS) % FAN);
         }
 
         /** As many names or nodes lead to a node as it says. */

@@ -1,3 +1,6 @@
+import java.lang.reflect.InvocationTargetException;
+import java.lang.reflect.Method;
+import java.lang.reflect.Modifier;
 import java.util.ArrayDeque;
 
 /** Makes the same call on a FlashFiles and on the Model and compares the answers. */
@@ -15,6 +18,9 @@ final class Pair {
   static final long THREW_STATE = 2L << 40;
   static final long THREW_UNSUPPORTED = 3L << 40;
 
+  private static final Method[] OF_REAL = new Method[CALLS.length];
+  private static final Method[] OF_MODEL = new Method[CALLS.length];
+
   final FlashFiles real = new FlashFiles();
   final Model model = new Model();
   final String label;
@@ -28,10 +34,8 @@ final class Pair {
 
   /** The answer, or which exception came. */
   long call(int op, int... given) {
-    int[] a = new int[5];
-    System.arraycopy(given, 0, a, 0, given.length);
-    long want = onModel(op, a);
-    long got = onReal(op, a);
+    long want = answer(model, op, given);
+    long got = answer(real, op, given);
     calls++;
     note(op, given, want);
     if (got != want && wrong++ == 0) {
@@ -100,79 +104,44 @@ final class Pair {
     }
   }
 
-  private long onReal(int op, int[] a) {
-    FlashFiles x = real;
+  private static long answer(Object x, int op, int[] given) {
+    Object[] numbers = new Object[given.length];
+    for (int i = 0; i < given.length; i++) {
+      numbers[i] = given[i];
+    }
     try {
-      switch (op) {
-        case FORMAT: x.format(a[0], a[1]); return 0;
-        case FEED: return x.feed(a[0], a[1], a[2], a[3], a[4]);
-        case TAPE: return x.tape(a[0]);
-        case MAKE: return x.make(a[0], a[1]);
-        case MAKE_DIRECTORY: return x.makeDirectory(a[0], a[1]);
-        case LINK: return x.link(a[0], a[1], a[2]);
-        case UNLINK: return x.unlink(a[0], a[1]);
-        case REMOVE_DIRECTORY: x.removeDirectory(a[0], a[1]); return 0;
-        case RENAME: x.rename(a[0], a[1], a[2], a[3]); return 0;
-        case FIND: return x.find(a[0], a[1]);
-        case WRITE: return x.write(a[0], a[1], a[2]);
-        case READ: return x.read(a[0], a[1], a[2]);
-        case BYTE_AT: return x.byteAt(a[0]);
-        case TRUNCATE: x.truncate(a[0], a[1]); return 0;
-        case FSYNC: return x.fsync(a[0]);
-        case SYNC: return x.sync();
-        case NAME: return x.name(a[0], a[1]);
-        case LOOK: return x.look(a[0], a[1]);
-        case COUNT: return x.count(a[0]);
-        case POWER: x.power(); return 0;
-        case CUT: x.cut(a[0]); return 0;
-        case MOUNT: return x.mount();
-        case CLEAN: x.clean(); return 0;
-        default: return x.faults();
-      }
-    } catch (IllegalArgumentException e) {
-      return THREW_ARGUMENT;
-    } catch (IllegalStateException e) {
-      return THREW_STATE;
-    } catch (UnsupportedOperationException e) {
-      return THREW_UNSUPPORTED;
+      Object answer = method(x, op).invoke(x, numbers);
+      return answer == null ? 0 : (Integer) answer;
+    } catch (InvocationTargetException e) {
+      return thrown(e.getCause());
+    } catch (IllegalAccessException e) {
+      throw new IllegalStateException(e);
     }
   }
 
-  private long onModel(int op, int[] a) {
-    Model x = model;
-    try {
-      switch (op) {
-        case FORMAT: x.format(a[0], a[1]); return 0;
-        case FEED: return x.feed(a[0], a[1], a[2], a[3], a[4]);
-        case TAPE: return x.tape(a[0]);
-        case MAKE: return x.make(a[0], a[1]);
-        case MAKE_DIRECTORY: return x.makeDirectory(a[0], a[1]);
-        case LINK: return x.link(a[0], a[1], a[2]);
-        case UNLINK: return x.unlink(a[0], a[1]);
-        case REMOVE_DIRECTORY: x.removeDirectory(a[0], a[1]); return 0;
-        case RENAME: x.rename(a[0], a[1], a[2], a[3]); return 0;
-        case FIND: return x.find(a[0], a[1]);
-        case WRITE: return x.write(a[0], a[1], a[2]);
-        case READ: return x.read(a[0], a[1], a[2]);
-        case BYTE_AT: return x.byteAt(a[0]);
-        case TRUNCATE: x.truncate(a[0], a[1]); return 0;
-        case FSYNC: return x.fsync(a[0]);
-        case SYNC: return x.sync();
-        case NAME: return x.name(a[0], a[1]);
-        case LOOK: return x.look(a[0], a[1]);
-        case COUNT: return x.count(a[0]);
-        case POWER: x.power(); return 0;
-        case CUT: x.cut(a[0]); return 0;
-        case MOUNT: return x.mount();
-        case CLEAN: x.clean(); return 0;
-        default: return x.faults();
-      }
-    } catch (IllegalArgumentException e) {
+  private static long thrown(Throwable e) {
+    if (e.getClass() == IllegalArgumentException.class) {
       return THREW_ARGUMENT;
-    } catch (IllegalStateException e) {
+    }
+    if (e.getClass() == IllegalStateException.class) {
       return THREW_STATE;
-    } catch (UnsupportedOperationException e) {
+    }
+    if (e.getClass() == UnsupportedOperationException.class) {
       return THREW_UNSUPPORTED;
     }
+    throw new AssertionError("nothing else may be thrown", e);
+  }
+
+  private static Method method(Object x, int op) {
+    Method[] known = x instanceof Model ? OF_MODEL : OF_REAL;
+    if (known[op] == null) {
+      for (Method m : x.getClass().getDeclaredMethods()) {
+        boolean ofFace = x instanceof Model != Modifier.isPublic(m.getModifiers());
+        if (m.getName().equals(CALLS[op]) && ofFace && !Modifier.isPrivate(m.getModifiers())) {
+          known[op] = m;
+        }
+      }
+    }
+    return known[op];
   }
 }

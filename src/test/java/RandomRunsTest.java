@@ -49,7 +49,7 @@ public final class RandomRunsTest {
 
   private int run(int length) {
     if (random.nextInt(8) == 0) {
-      pair.call(1 + random.nextInt(23), 1, 1, 1);
+      pair.call(Pair.MAKE + random.nextInt(2), 1, 1);
     }
     format();
     for (int i = 0; i < length && pair.wrong == 0; i++) {
