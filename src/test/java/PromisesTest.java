@@ -1,4 +1,7 @@
 import java.lang.reflect.Field;
+import java.lang.reflect.Method;
+import java.util.HashMap;
+import java.util.Map;
 
 /** Each promise of the document by itself: ordinary inputs, the edges it names, and wrong inputs. */
 public final class PromisesTest {
@@ -19,6 +22,8 @@ public final class PromisesTest {
     t.make();
     t.idsOfMake();
     t.allIds();
+    t.lastId();
+    t.sameHash();
     t.makeDirectory();
     t.link();
     t.unlink();
@@ -44,6 +49,7 @@ public final class PromisesTest {
     t.power();
     t.cut();
     t.cutByNeed();
+    t.cutBlocks();
     t.mount();
     t.mountBringsForward();
     t.clean();
@@ -187,11 +193,11 @@ public final class PromisesTest {
     begin(2);
     int[][] none = {{47, 24}, {129, 24}, {48, 23}, {48, 25}, {128, 65}, {50, 26}, {51, 26}, {-48, 24},
         {Integer.MIN_VALUE, 24}, {128, Integer.MIN_VALUE}, {Integer.MAX_VALUE, Integer.MAX_VALUE}};
-    int f = file(1, "a");
+    int kept = file(1, "a");
     for (int[] n : none) {
       argument("format(" + n[0] + ", " + n[1] + ")", () -> x.format(n[0], n[1]));
     }
-    due("all stays", found(1, "a"), f);
+    due("all stays", found(1, "a"), kept);
     int[][] some = {{48, 24}, {128, 24}, {128, 64}, {51, 25}};
     for (int[] n : some) {
       x.format(n[0], n[1]);
@@ -213,8 +219,11 @@ public final class PromisesTest {
     x.format(48, 24);
     due("mounted", x.sync(), 2);
     due("the tape stays", x.tape(0), 3);
-    file(1, "a");
-    failAndMount();
+    int f = file(1, "a");
+    x.sync();
+    x.fsync(f);
+    x.power();
+    due("brought forward", x.mount(), 1);
     x.format(48, 24);
     due("brought forward since format", x.count(4), 0);
   }
@@ -308,8 +317,7 @@ public final class PromisesTest {
     return file ? x.make(directory, 2) : x.makeDirectory(directory, 2);
   }
 
-  private void allIds() {
-    promise = 5;
+  private void makeAllIds() {
     x = new FlashFiles();
     x.format(128, 24);
     int made = 1;
@@ -321,6 +329,27 @@ public final class PromisesTest {
       }
     }
     due("ids", x.count(5), 250);
+  }
+
+  /** The last id is as good as the others. */
+  private void lastId() {
+    promise = 19;
+    makeAllIds();
+    due("look", x.look(250, 0), 1);
+    due("blocks", x.count(0), 250 + 249);
+    due("fsync", x.fsync(250), 1);
+    x.truncate(250, 97);
+    due("fsync", x.fsync(250), 0);
+    x.power();
+    due("brought forward", x.mount(), 1);
+    due("size", x.look(250, 1), 97);
+    due("USED", x.count(1), 250 + 249 + 1);
+    due("faults", x.faults(), 0);
+  }
+
+  private void allIds() {
+    promise = 5;
+    makeAllIds();
     state("250 ids", () -> quick(1, true, 0x7A7A0000));
     x.feed(0x66350000, 0, 0, 0, 0);
     x.unlink(2, 2);
@@ -516,6 +545,33 @@ public final class PromisesTest {
     argument("no name", () -> x.find(1, on("a\0")));
     argument("n 0", () -> { on("a"); x.find(1, 0); });
     argument("n 21", () -> x.find(1, on(filled(21, 'x'))));
+  }
+
+  /** Two names of the same hash are two names. */
+  private void sameHash() throws Exception {
+    begin(11);
+    Method hashOf = FlashFiles.class.getDeclaredMethod("hashOf", int[].class, int.class);
+    hashOf.setAccessible(true);
+    Map<Object, String> seen = new HashMap<>();
+    int pairs = 0;
+    for (int i = 0; i < 26 * 26 * 26 && pairs < 5; i++) {
+      String name = "" + (char) (97 + i / 676) + (char) (97 + i / 26 % 26) + (char) (97 + i % 26);
+      int word = name.charAt(0) << 24 | name.charAt(1) << 16 | name.charAt(2) << 8;
+      String other = seen.put(hashOf.invoke(null, new int[] {word, 0, 0, 0, 0}, 0), name);
+      if (other != null) {
+        pairs++;
+        int f = file(1, name);
+        due("not there", found(1, other), -1);
+        int g = file(1, other);
+        due("the one", found(1, name), f);
+        due("the other", found(1, other), g);
+        x.unlink(1, on(name));
+        due("the other stays", found(1, other), g);
+        due("the one is gone", found(1, name), -1);
+      }
+    }
+    due("pairs", pairs, 5);
+    due("faults", x.faults(), 0);
   }
 
   private void tapeIsUsedUp() {
@@ -1099,6 +1155,22 @@ public final class PromisesTest {
     due("no name", found(1, "a"), -1);
   }
 
+  /** A pack has 34 blocks; a cut one is written up to a number, but never its last one. */
+  private void cutBlocks() throws Exception {
+    int[] cuts = {0, 1, 5, 33, 34, Integer.MAX_VALUE};
+    for (int k : cuts) {
+      begin(22);
+      x.cut(k);
+      unsupported("sync", () -> x.sync());
+      boolean[] written = (boolean[]) inside("device", "written");
+      int count = 0;
+      for (int block = 1; block < 69; block++) {
+        count += written[block] ? 1 : 0;
+      }
+      due("blocks of the whole pack and of the cut one", count, 34 + Math.min(k, 33));
+    }
+  }
+
   private void mount() {
     begin(23);
     state("mounted", () -> x.mount());
@@ -1199,35 +1271,54 @@ public final class PromisesTest {
     int f = file(1, "f");
     put(f, 256 * 30, "x");
     due("none", x.faults(), 0);
-    int[] use = (int[]) inside("log", "use");
     int[] places = (int[]) inside("table", "places");
     int[] words = (int[]) inside("device", "words");
-    boolean[] free = (boolean[]) inside("log", "free");
-    int block = 0;
-    while (use[block] == 0) {
-      block++;
+    int inode = 64 * places[f];
+    int root = 64 * places[1];
+    int node = 64 * places[251];
+    int slot = root + 6;
+    while (words[slot] == 0) {
+      slot++;
     }
-    int kept = use[block];
-    use[block] = 0;
-    atLeastOne("a block in use that the table tells free");
-    use[block] = kept;
-    int place = places[f];
-    places[f] = places[1];
-    atLeastOne("a node that stands elsewhere");
-    places[f] = place;
-    words[place * 64 + 4]++;
-    atLeastOne("a count that is not so");
-    words[place * 64 + 4]--;
-    words[place * 64 + 7] = words[place * 64 + 6];
-    atLeastOne("two owners of one block");
-    words[place * 64 + 7] = 0;
-    free[(place - 69) / 16] = true;
+    int entry = 64 * (words[slot] & 4095);
+    seen("a count of names", words, root + 1, 2);
+    seen("a name's hash", words, slot, words[slot] ^ 1 << 30);
+    seen("a name's id", words, entry, 9);
+    seen("a name's bytes", words, entry + 2, 1 << 24);
+    seen("a size that ends too early", words, inode + 1, 256);
+    seen("a count of links", words, inode + 2, 2);
+    seen("a small file with blocks", words, inode + 3, 1);
+    seen("a count of blocks", words, inode + 4, 3);
+    seen("two owners of one block", words, inode + 7, words[inode + 6]);
+    seen("a pointer to nowhere", words, inode + 7, 4000);
+    seen("a node that nobody leads to", words, inode + 26, 0);
+    seen("a node that is not there", words, inode + 27, 300);
+    seen("a node of another number", words, node + 60, 252);
+    seen("a node of another owner", words, node + 61, 1);
+    seen("a pack that is not whole", words, 64 * (1 + 34 + 33), 7);
+    seen("a node that stands elsewhere", places, f, places[1]);
+    int[] use = (int[]) inside("log", "use");
+    seen("a block in use that the table tells free", use, places[f], 0);
+    seen("a block not in use", use, 69 + 16 * 20, 1);
+    int segment = (places[f] - 69) / 16;
+    seen("a segment's nodes", (int[]) inside("log", "nodes"), segment, 0);
+    seen("a segment's data", (int[]) inside("log", "data"), segment, 1);
+    boolean[] free = (boolean[]) inside("log", "free");
+    free[segment] = true;
     atLeastOne("a segment in use that is told free");
-    free[(place - 69) / 16] = false;
-    words[place * 64 + 2]++;
-    atLeastOne("a link too many");
-    words[place * 64 + 2]--;
+    free[segment] = false;
+    boolean[] written = (boolean[]) inside("device", "written");
+    written[places[f]] = false;
+    atLeastOne("a node that was never written");
+    written[places[f]] = true;
     due("none again", x.faults(), 0);
+  }
+
+  private void seen(String what, int[] row, int at, int value) {
+    int kept = row[at];
+    row[at] = value;
+    atLeastOne(what);
+    row[at] = kept;
   }
 
   private void atLeastOne(String what) {
