@@ -1403,9 +1403,11 @@ public final class FlashFiles {
         /** Names are filled up with zeros, which no name has, so their words tell the order. */
         private boolean isBefore(int one, int two) {
             for (int i = ENTRY_NAME; i < ENTRY_NAME + NAME_WORDS; i++) {
-                int order = Integer.compareUnsigned(device.word(one, i), device.word(two, i));
-                if (order != 0) {
-                    return order < 0;
+                // The highest bit turned round orders words as bytes from 0 to 255 do.
+                int a = device.word(one, i) ^ 1 << 31;
+                int b = device.word(two, i) ^ 1 << 31;
+                if (a != b) {
+                    return a < b;
                 }
             }
             return false;
