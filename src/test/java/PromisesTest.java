@@ -1,19 +1,6 @@
-import java.lang.reflect.Field;
-import java.lang.reflect.Method;
-import java.util.HashMap;
-import java.util.Map;
-
 /** Each promise of the document by itself: ordinary inputs, the edges it names, and wrong inputs. */
-public final class PromisesTest {
-  private interface Call {
-    void run();
-  }
-
-  private int promise;
-  private int wrong;
-  private FlashFiles x;
-
-  public static void main(String[] args) throws Exception {
+public final class PromisesTest extends Trial {
+  public static void main(String[] args) {
     PromisesTest t = new PromisesTest();
     t.newObject();
     t.format();
@@ -22,8 +9,8 @@ public final class PromisesTest {
     t.make();
     t.idsOfMake();
     t.allIds();
+    t.allIdsAtTheLatestCheckpoint();
     t.lastId();
-    t.sameHash();
     t.makeDirectory();
     t.link();
     t.unlink();
@@ -34,6 +21,7 @@ public final class PromisesTest {
     t.tapeIsUsedUp();
     t.write();
     t.writeAndBlocks();
+    t.writeAllOver();
     t.read();
     t.byteAt();
     t.truncate();
@@ -49,136 +37,18 @@ public final class PromisesTest {
     t.power();
     t.cut();
     t.cutByNeed();
-    t.cutBlocks();
     t.mount();
     t.mountBringsForward();
     t.clean();
-    t.faults();
-    t.deviceAlone();
-    System.out.println(t.wrong == 0 ? "PromisesTest: all as due" : "PromisesTest: " + t.wrong + " wrong");
-    System.exit(t.wrong == 0 ? 0 : 1);
+    t.end();
   }
 
-  private void begin(int number) {
-    promise = number;
-    x = new FlashFiles();
-    x.format(48, 24);
-  }
-
-  private void due(String what, long got, long want) {
-    if (got != want) {
-      wrong++;
-      System.out.println("promise " + promise + ": " + what + " is " + got + ", due is " + want);
-    }
-  }
-
-  private void throwing(String what, Class<?> want, Call call) {
-    Class<?> got = null;
-    try {
-      call.run();
-    } catch (RuntimeException e) {
-      got = e.getClass();
-    }
-    if (got != want) {
-      wrong++;
-      System.out.println("promise " + promise + ": " + what + " threw " + got + ", due is " + want);
-    }
-  }
-
-  private void argument(String what, Call call) {
-    throwing(what, IllegalArgumentException.class, call);
-  }
-
-  private void state(String what, Call call) {
-    throwing(what, IllegalStateException.class, call);
-  }
-
-  private void unsupported(String what, Call call) {
-    throwing(what, UnsupportedOperationException.class, call);
-  }
-
-  /** Puts just these bytes on the tape, behind what is there. */
-  private int on(String bytes) {
-    int had = x.tape(0);
-    for (int at = 0; at < bytes.length(); at += 20) {
-      int[] w = new int[5];
-      for (int i = 0; i < 20; i++) {
-        w[i / 4] |= (at + i < bytes.length() ? bytes.charAt(at + i) : 0) << (24 - 8 * (i % 4));
-      }
-      x.feed(w[0], w[1], w[2], w[3], w[4]);
-    }
-    x.tape(had + bytes.length());
-    return bytes.length();
-  }
-
-  private static String filled(int n, char c) {
-    return String.valueOf(c).repeat(n);
-  }
-
-  private int file(int directory, String name) {
-    return x.make(directory, on(name));
-  }
-
-  private int directory(int directory, String name) {
-    return x.makeDirectory(directory, on(name));
-  }
-
-  private int put(int file, int at, String bytes) {
-    return x.write(file, at, on(bytes));
-  }
-
-  private int found(int directory, String name) {
-    return x.find(directory, on(name));
-  }
-
-  private void moved(int directory, String name, int other, String to) {
-    on(name + to);
-    x.rename(directory, name.length(), other, to.length());
-  }
-
-  /** The bytes of a file, as text. */
-  private String bytes(int file, int at, int n) {
-    return told(x.read(file, at, n));
-  }
-
-  private String told(int n) {
-    StringBuilder text = new StringBuilder();
-    for (int i = 0; i < n; i++) {
-      text.append((char) x.byteAt(i));
-    }
-    due("byteAt behind the end", x.byteAt(Math.max(n, 0)), -1);
-    return text.toString();
-  }
-
-  private void text(String what, String got, String want) {
-    if (!got.equals(want)) {
-      wrong++;
-      System.out.println("promise " + promise + ": " + what + " is '" + got + "', due is '" + want + "'");
-    }
-  }
-
-  private void failAndMount() {
-    x.power();
-    x.mount();
-  }
-
-  private void withoutPower() {
-    Call[] calls = {
-      () -> x.make(1, 1), () -> x.makeDirectory(1, 1), () -> x.link(2, 1, 1), () -> x.unlink(1, 1),
-      () -> x.removeDirectory(1, 1), () -> x.rename(1, 1, 1, 1), () -> x.find(1, 1),
-      () -> x.write(2, 0, 1), () -> x.read(2, 0, 1), () -> x.truncate(2, 0), () -> x.fsync(2),
-      () -> x.sync(), () -> x.name(1, 0), () -> x.look(1, 0), () -> x.count(0), () -> x.power(),
-      () -> x.cut(1), () -> x.clean(), () -> x.faults(), () -> x.make(-1, 99), () -> x.look(1, 9),
-      () -> x.count(-1), () -> x.read(-1, -1, 0), () -> x.name(-1, -1), () -> x.truncate(0, -1)
-    };
-    for (int i = 0; i < calls.length; i++) {
-      state("call " + i + " without power", calls[i]);
-    }
+  private void begin(int promise) {
+    begin("promise " + promise);
   }
 
   private void newObject() {
-    promise = 1;
-    x = new FlashFiles();
+    beginWithoutDevice("promise 1");
     withoutPower();
     state("mount without a device", () -> x.mount());
     due("tape", x.tape(0), 0);
@@ -317,8 +187,8 @@ public final class PromisesTest {
     return file ? x.make(directory, 2) : x.makeDirectory(directory, 2);
   }
 
-  private void makeAllIds() {
-    x = new FlashFiles();
+  private void makeAllIds(int promise) {
+    beginWithoutDevice("promise " + promise);
     x.format(128, 24);
     int made = 1;
     for (int d = 0; made < 250; d++) {
@@ -333,8 +203,7 @@ public final class PromisesTest {
 
   /** The last id is as good as the others. */
   private void lastId() {
-    promise = 19;
-    makeAllIds();
+    makeAllIds(19);
     due("look", x.look(250, 0), 1);
     due("blocks", x.count(0), 250 + 249);
     due("fsync", x.fsync(250), 1);
@@ -348,8 +217,7 @@ public final class PromisesTest {
   }
 
   private void allIds() {
-    promise = 5;
-    makeAllIds();
+    makeAllIds(5);
     state("250 ids", () -> quick(1, true, 0x7A7A0000));
     x.feed(0x66350000, 0, 0, 0, 0);
     x.unlink(2, 2);
@@ -357,11 +225,15 @@ public final class PromisesTest {
     due("the id is free behind a checkpoint", quick(1, true, 0x7A7A0000), 8);
     due("checkpoints were only those asked for", x.count(3), 2);
     due("faults", x.faults(), 0);
+  }
+
+  private void allIdsAtTheLatestCheckpoint() {
+    makeAllIds(5);
     x.sync();
-    x.feed(0x7A7A0000, 0, 0, 0, 0);
-    x.unlink(1, 2);
+    x.feed(0x66350000, 0, 0, 0, 0);
+    x.unlink(2, 2);
     state("in use at the latest checkpoint", () -> quick(1, false, 0x7A7B0000));
-    due("checkpoints were only those asked for", x.count(3), 3);
+    due("checkpoints were only those asked for", x.count(3), 2);
   }
 
   private void makeDirectory() {
@@ -547,33 +419,6 @@ public final class PromisesTest {
     argument("n 21", () -> x.find(1, on(filled(21, 'x'))));
   }
 
-  /** Two names of the same hash are two names. */
-  private void sameHash() throws Exception {
-    begin(11);
-    Method hashOf = FlashFiles.class.getDeclaredMethod("hashOf", int[].class, int.class);
-    hashOf.setAccessible(true);
-    Map<Object, String> seen = new HashMap<>();
-    int pairs = 0;
-    for (int i = 0; i < 26 * 26 * 26 && pairs < 5; i++) {
-      String name = "" + (char) (97 + i / 676) + (char) (97 + i / 26 % 26) + (char) (97 + i % 26);
-      int word = name.charAt(0) << 24 | name.charAt(1) << 16 | name.charAt(2) << 8;
-      String other = seen.put(hashOf.invoke(null, new int[] {word, 0, 0, 0, 0}, 0), name);
-      if (other != null) {
-        pairs++;
-        int f = file(1, name);
-        due("not there", found(1, other), -1);
-        int g = file(1, other);
-        due("the one", found(1, name), f);
-        due("the other", found(1, other), g);
-        x.unlink(1, on(name));
-        due("the other stays", found(1, other), g);
-        due("the one is gone", found(1, name), -1);
-      }
-    }
-    due("pairs", pairs, 5);
-    due("faults", x.faults(), 0);
-  }
-
   private void tapeIsUsedUp() {
     begin(5);
     int f = file(1, "f");
@@ -666,17 +511,23 @@ public final class PromisesTest {
       due("blocks of one with " + sizes[i], x.look(g, 3), 1 + 2 + nodes[i]);
       x.sync();
     }
+    due("faults", x.faults(), 0);
+  }
+
+  /** Bytes all over a long file, through direct and indirect nodes. */
+  private void writeAllOver() {
+    begin(12);
     int h = file(1, "h");
-    for (int k = 0; k < 390; k += 13) {
+    for (int k = 0; k < 391; k += 13) {
       put(h, 256 * k + 100, "at" + (char) (k % 250 + 1));
     }
-    for (int k = 0; k < 390; k += 13) {
-      text("bytes of block " + k, bytes(h, 256 * k + 99, 4), "\0at" + (char) (k % 250 + 1));
+    for (int k = 0; k < 391; k += 13) {
+      text("bytes of block " + k, bytes(h, 256 * k + 100, 3), "at" + (char) (k % 250 + 1));
     }
     due("faults", x.faults(), 0);
     x.sync();
     failAndMount();
-    for (int k = 0; k < 390; k += 13) {
+    for (int k = 0; k < 391; k += 13) {
       text("bytes behind mount", bytes(h, 256 * k + 99, 4), "\0at" + (char) (k % 250 + 1));
     }
     due("faults", x.faults(), 0);
@@ -901,7 +752,6 @@ public final class PromisesTest {
   /** USED, FRESH and the checkpoint that a need takes. */
   private void needsAndCheckpoints() {
     begin(20);
-    int room = 16 * 24;
     int f = file(1, "f");
     x.sync();
     due("USED", x.count(1), 3);
@@ -913,27 +763,22 @@ public final class PromisesTest {
     x.fsync(f);
     x.fsync(f);
     x.fsync(f);
-    due("just full", x.count(1) + x.count(2), room);
+    due("just full", x.count(1) + x.count(2), 16 * 24);
     argument("what throws otherwise takes none", () -> x.truncate(f, -1));
-    state("what throws otherwise takes none", () -> x.unlink(1, on("x")));
+    state("what throws otherwise takes none", () -> unlinked(1, "x"));
     due("checkpoints", x.count(3), 2);
     x.truncate(f, 0);
     due("a checkpoint", x.count(3), 3);
     due("FRESH", x.count(2), 6);
     due("find and read need none", found(1, "f"), f);
     due("FRESH", x.count(2), 6);
-    for (int i = 0; i < 125; i++) {
-      x.fsync(f);
-      x.fsync(f);
-      x.fsync(f);
-    }
-    due("just full", x.count(1) + x.count(2), room);
+    fillRoom(16 * 24, f, 5, f);
     put(f, 0, "x");
     due("a checkpoint", x.count(3), 4);
     due("FRESH", x.count(2), 7);
     x.sync();
-    for (int i = 0; i < 378; i++) {
-      x.fsync(f);
+    for (int i = 0; i < 63; i++) {
+      x.truncate(f, 5);
     }
     file(1, "g");
     due("three were left, so a checkpoint", x.count(3), 6);
@@ -1095,7 +940,7 @@ public final class PromisesTest {
       x.cut(k);
       due("no commit yet", x.look(f, 1), 4);
       unsupported("sync", () -> x.sync());
-      withoutPower();
+      state("the power is off", () -> x.count(0));
       due("nothing brought forward", x.mount(), 0);
       due("as if it had not been begun", x.look(f, 1), 0);
       due("names, too", found(1, "g"), -1);
@@ -1155,22 +1000,6 @@ public final class PromisesTest {
     due("no name", found(1, "a"), -1);
   }
 
-  /** A pack has 34 blocks; a cut one is written up to a number, but never its last one. */
-  private void cutBlocks() throws Exception {
-    int[] cuts = {0, 1, 5, 33, 34, Integer.MAX_VALUE};
-    for (int k : cuts) {
-      begin(22);
-      x.cut(k);
-      unsupported("sync", () -> x.sync());
-      boolean[] written = (boolean[]) inside("device", "written");
-      int count = 0;
-      for (int block = 1; block < 69; block++) {
-        count += written[block] ? 1 : 0;
-      }
-      due("blocks of the whole pack and of the cut one", count, 34 + Math.min(k, 33));
-    }
-  }
-
   private void mount() {
     begin(23);
     state("mounted", () -> x.mount());
@@ -1187,13 +1016,13 @@ public final class PromisesTest {
     due("blocks", x.count(0), 5);
     state("mounted", () -> x.mount());
     for (int i = 0; i < 60; i++) {
-      put(f, 256 * i, "round" + (char) (i + 1));
+      put(f, 256 * i, "r" + (char) (i + 1));
       x.fsync(f);
       x.power();
       due("one each time", x.mount(), 1);
     }
-    for (int i = 0; i < 60; i++) {
-      text("bytes", bytes(f, 256 * i, 6), "round" + (char) (i + 1));
+    for (int i = 0; i < 60; i += 2) {
+      text("bytes", bytes(f, 256 * i, 2), "r" + (char) (i + 1));
     }
     due("faults", x.faults(), 0);
   }
@@ -1234,7 +1063,7 @@ public final class PromisesTest {
 
   private void clean() {
     begin(24);
-    int[] f = new int[10];
+    int[] f = new int[6];
     for (int i = 0; i < f.length; i++) {
       f[i] = file(1, "f" + (char) (48 + i));
     }
@@ -1262,96 +1091,5 @@ public final class PromisesTest {
     }
     x.power();
     state("without power", () -> x.clean());
-  }
-
-  /** Spoils memory and the device behind the class's back: faults() must see it. */
-  private void faults() throws Exception {
-    begin(25);
-    due("none", x.faults(), 0);
-    int f = file(1, "f");
-    put(f, 256 * 30, "x");
-    due("none", x.faults(), 0);
-    int[] places = (int[]) inside("table", "places");
-    int[] words = (int[]) inside("device", "words");
-    int inode = 64 * places[f];
-    int root = 64 * places[1];
-    int node = 64 * places[251];
-    int slot = root + 6;
-    while (words[slot] == 0) {
-      slot++;
-    }
-    int entry = 64 * (words[slot] & 4095);
-    seen("a count of names", words, root + 1, 2);
-    seen("a name's hash", words, slot, words[slot] ^ 1 << 30);
-    seen("a name's id", words, entry, 9);
-    seen("a name's bytes", words, entry + 2, 1 << 24);
-    seen("a size that ends too early", words, inode + 1, 256);
-    seen("a count of links", words, inode + 2, 2);
-    seen("a small file with blocks", words, inode + 3, 1);
-    seen("a count of blocks", words, inode + 4, 3);
-    seen("two owners of one block", words, inode + 7, words[inode + 6]);
-    seen("a pointer to nowhere", words, inode + 7, 4000);
-    seen("a node that nobody leads to", words, inode + 26, 0);
-    seen("a node that is not there", words, inode + 27, 300);
-    seen("a node of another number", words, node + 60, 252);
-    seen("a node of another owner", words, node + 61, 1);
-    seen("a pack that is not whole", words, 64 * (1 + 34 + 33), 7);
-    seen("a node that stands elsewhere", places, f, places[1]);
-    int[] use = (int[]) inside("log", "use");
-    seen("a block in use that the table tells free", use, places[f], 0);
-    seen("a block not in use", use, 69 + 16 * 20, 1);
-    int segment = (places[f] - 69) / 16;
-    seen("a segment's nodes", (int[]) inside("log", "nodes"), segment, 0);
-    seen("a segment's data", (int[]) inside("log", "data"), segment, 1);
-    boolean[] free = (boolean[]) inside("log", "free");
-    free[segment] = true;
-    atLeastOne("a segment in use that is told free");
-    free[segment] = false;
-    boolean[] written = (boolean[]) inside("device", "written");
-    written[places[f]] = false;
-    atLeastOne("a node that was never written");
-    written[places[f]] = true;
-    due("none again", x.faults(), 0);
-  }
-
-  private void seen(String what, int[] row, int at, int value) {
-    int kept = row[at];
-    row[at] = value;
-    atLeastOne(what);
-    row[at] = kept;
-  }
-
-  private void atLeastOne(String what) {
-    if (x.faults() == 0) {
-      wrong++;
-      System.out.println("promise 25: " + what + " is not seen");
-    }
-  }
-
-  private Object inside(String part, String field) throws Exception {
-    Field outer = FlashFiles.class.getDeclaredField(part);
-    outer.setAccessible(true);
-    Object of = outer.get(x);
-    Field inner = of.getClass().getDeclaredField(field);
-    inner.setAccessible(true);
-    return inner.get(of);
-  }
-
-  /** When the power is off memory knows nothing: what comes back is on the device. */
-  private void deviceAlone() throws Exception {
-    begin(21);
-    int f = file(1, "f");
-    put(f, 256 * 30, "x");
-    x.sync();
-    x.power();
-    int sum = 0;
-    for (String[] row : new String[][] {{"log", "use"}, {"log", "nodes"}, {"log", "data"}, {"table", "places"}, {"table", "kept"}}) {
-      for (int v : (int[]) inside(row[0], row[1])) {
-        sum |= v;
-      }
-    }
-    due("what memory knows", sum, 0);
-    x.mount();
-    text("bytes", bytes(f, 256 * 30, 1), "x");
   }
 }
