@@ -15,6 +15,7 @@ public final class EdgesTest extends Trial {
     t.feedFull();
     t.tapeNumbers();
     t.makeTakesTheFirstBytes();
+    t.everyNameIsThere();
     t.usedUp();
     t.idsNowOrAtTheLatestCheckpoint();
     t.idsCountedOnce();
@@ -223,6 +224,32 @@ public final class EdgesTest extends Trial {
     text("name 2", told(x.name(1, 2)), "abcdefghijklmnopqrst");
     text("a new one", "" + x.look(4, 0) + x.look(4, 1) + x.look(4, 2) + x.look(4, 3) + x.look(4, 4), "10111");
     due("needs 4 each", x.count(2), 12);
+  }
+
+  /** A full directory: each of its names is found and refused, goes, and comes again. */
+  private void everyNameIsThere() {
+    begin("5: IllegalStateException: the name is there, the directory has 48");
+    int d = directory(1, "d");
+    int f = file(1, "f");
+    for (int i = 0; i < 47; i++) {
+      linked(f, d, "" + (char) (50 + i));
+    }
+    for (int i = 0; i < 47; i++) {
+      String name = "" + (char) (50 + i);
+      state("there", () -> file(d, name));
+      due("found", found(d, name), f);
+    }
+    int g = file(d, "z");
+    due("the 48th", x.look(d, 1), 48);
+    state("there", () -> file(d, "z"));
+    state("full", () -> file(d, "zz"));
+    due("found", found(d, "z"), g);
+    for (int i = 0; i < 47; i++) {
+      due("goes", unlinked(d, "" + (char) (50 + i)), 47 - i);
+    }
+    due("the last one stays", x.name(d, 0), 1);
+    due("found", found(d, "z"), g);
+    due("faults", x.faults(), 0);
   }
 
   /** Each of the eight calls, when it goes and when it throws; the other calls; and without power. */
@@ -438,6 +465,14 @@ public final class EdgesTest extends Trial {
     due("with all that is in it", found(e, "f"), f);
     int g = directory(e, "g");
     int h = directory(1, "h");
+    int i = directory(1, "i");
+    file(i, "j");
+    state("a directory with one name does not go", () -> moved(1, "h", 1, "i"));
+    unlinked(i, "j");
+    moved(1, "i", 1, "h");
+    due("behind that it does", found(1, "h"), i);
+    due("the former h went", x.look(h, 0), 0);
+    h = i;
     moved(1, "h", e, "g");
     due("in another directory", found(e, "g"), h);
     due("the empty one went", x.look(g, 0), 0);
