@@ -348,6 +348,7 @@ public final class EdgesTest extends Trial {
     due("no checkpoint", x.count(3), 1);
     state("makeDirectory", () -> directory(1, "z"));
     due("no checkpoint", x.count(3), 1);
+    due("the tape is used up", x.tape(0), 0);
   }
 
   private void makeDirectoryLikewise() {

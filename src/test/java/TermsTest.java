@@ -184,6 +184,7 @@ public final class TermsTest extends Trial {
     due("no more", x.look(251, 0), 0);
     state("the 251st", () -> file(1, "z"));
     state("the 251st", () -> directory(1, "z"));
+    due("the tape is used up", x.tape(0), 0);
     due("a link needs no id", linked(250, 1, "z"), 2);
     due("checkpoints", x.count(3), 1);
   }
@@ -200,13 +201,23 @@ public final class TermsTest extends Trial {
     due("the 48th, a directory", directory(d, "directory"), g + 1);
     due("names", x.look(d, 1), 48);
     due("blocks", x.look(d, 3), 49);
-    int fresh = x.count(2);
-    state("make", () -> file(d, "z"));
-    state("makeDirectory", () -> directory(d, "z"));
-    state("link", () -> linked(f, d, "z"));
-    state("rename from another one", () -> moved(1, "f", d, "z"));
-    state("rename of a directory from another one", () -> moved(1, "e", d, "z"));
-    due("FRESH", x.count(2), fresh);
+    Call[] refused = {
+      () -> file(d, "z"), () -> directory(d, "z"), () -> linked(f, d, "z"), () -> moved(1, "f", d, "z"),
+      () -> moved(1, "e", d, "z")
+    };
+    int[] before = new int[6];
+    for (int what = 0; what <= 5; what++) {
+      before[what] = x.count(what);
+    }
+    for (int i = 0; i < refused.length; i++) {
+      state("the 49th, by call " + i, refused[i]);
+      due("the tape is used up", x.tape(0), 0);
+      for (int what = 0; what <= 5; what++) {
+        due("count " + what, x.count(what), before[what]);
+      }
+    }
+    due("links", x.look(f, 2), 47);
+    due("the names in the other directory stay", found(1, "f") + found(1, "e"), f + e);
     due("names", x.look(d, 1), 48);
     due("none of them came", found(d, "z"), -1);
     moved(1, "f", d, "file");
