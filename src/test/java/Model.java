@@ -83,6 +83,10 @@ final class Model {
   private int forward;
   private boolean cutWaits;
 
+  boolean isOff() {
+    return device && !on;
+  }
+
   void format(int s, int r) {
     if (s < 48 || s > 128 || r < 24 || r > s / 2) {
       throw new IllegalArgumentException();

@@ -74,23 +74,27 @@ final class Pair {
       call(COUNT, what);
     }
     for (int id = 0; id <= 251; id++) {
-      long kind = call(LOOK, id, 0);
-      if (kind == 0) {
-        continue;
+      compareOne(id);
+    }
+  }
+
+  void compareOne(int id) {
+    long kind = call(LOOK, id, 0);
+    if (kind == 0) {
+      return;
+    }
+    for (int what = 1; what <= 4; what++) {
+      call(LOOK, id, what);
+    }
+    if (kind == Model.DIRECTORY) {
+      long names = model.look(id, 1);
+      for (int k = 0; k <= names; k++) {
+        compareTold(call(NAME, id, k));
       }
-      for (int what = 1; what <= 4; what++) {
-        call(LOOK, id, what);
-      }
-      if (kind == Model.DIRECTORY) {
-        long names = model.look(id, 1);
-        for (int k = 0; k <= names; k++) {
-          compareTold(call(NAME, id, k));
-        }
-      } else {
-        int size = model.look(id, 1);
-        for (int at = 0; at <= size; at += 2000) {
-          compareTold(call(READ, id, at, 2000));
-        }
+    } else {
+      int size = model.look(id, 1);
+      for (int at = 0; at <= size; at += 2000) {
+        compareTold(call(READ, id, at, 2000));
       }
     }
   }
